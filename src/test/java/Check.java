@@ -1,0 +1,24 @@
+/** Counts the answers that are not as due, and prints each of them. */
+final class Check {
+    private int asked = 0;
+    private int wrong = 0;
+
+    void due(String call, long got, long want) {
+        asked++;
+        if (got != want) {
+            wrong++;
+            System.out.println(call + " answered " + got + ", due is " + want);
+        }
+    }
+
+    void due(String call, boolean got, boolean want) {
+        due(call, got ? 1L : 0L, want ? 1L : 0L);
+    }
+
+    void end() {
+        System.out.println(asked + " answers, " + wrong + " not as due");
+        if (wrong != 0) {
+            System.exit(1);
+        }
+    }
+}
