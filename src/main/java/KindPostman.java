@@ -147,7 +147,7 @@ public final class KindPostman {
     public int text(int k) {
         int length = tapeLength;
         tapeLength = 0;
-        reader.praise();
+        reader.forgive();
         if (!isWithin(k, 0, TEXTS - 1) || !reader.read(k, tape, length, world.doors.count)) {
             return NONE;
         }
@@ -1014,7 +1014,6 @@ public final class KindPostman {
         static final int ON = WORD + 18;
         static final int TO = WORD + 19;
         static final int NEWS = WORD + 20;
-        static final int JOKE = WORD + 26;
         static final int WALK = WORD + 27;
         static final int STREET = WORD + 28;
 
@@ -1125,14 +1124,13 @@ public final class KindPostman {
         private int waits;
         private int opened;
 
-        void praise() {
+        void forgive() {
             fault = 0;
             place = NONE;
         }
 
-        /** Whether the first bytes of the TAPE are TEXT k. */
+        /** Whether the first bytes of the TAPE are TEXT k; earlier FAULTS have been forgiven. */
         boolean read(int k, byte[] tape, int length, int doorsThere) {
-            praise();
             tokens.scan(tape, length);
             draft.clearOne(k);
             at = 0;
@@ -1267,9 +1265,8 @@ public final class KindPostman {
             return sort == '<' ? Law.BELOW : Law.ABOVE;
         }
 
-        /** A C has been read: with it each not before it, each ( that a ) closes behind it. */
+        /** Behind a C: each ) that closes a ( before it. */
         private void closeAll() {
-            settle(Law.NOT);
             for (int i = 0; i < MOST_OPEN && sort() == ')'; i++) {
                 settle(Law.OR);
                 if (waits == 0) {
@@ -1278,7 +1275,6 @@ public final class KindPostman {
                 waits--;
                 opened--;
                 at++;
-                settle(Law.NOT);
             }
         }
 
@@ -1307,6 +1303,7 @@ public final class KindPostman {
             at++;
         }
 
+        /** The right part of all that waits and is at least so strong, a not always, has been read. */
         private void settle(int weakest) {
             for (int i = waits - 1; i >= 0 && waiting[i] >= weakest; i--) {
                 draft.law.addStep(waiting[i]);

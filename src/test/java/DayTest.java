@@ -63,6 +63,9 @@ public final class DayTest {
         CHECK.due("hunger 50 is not above 50", x.look(2), 96);
         x.days(1);
         CHECK.due("above 50: 5 less", x.look(2), 91);
+        x.set(4, 0, 46);
+        x.days(1);
+        CHECK.due("51 is above 50", x.look(2), 86);
         x.days(20);
         CHECK.due("hunger 99 at most", x.look(3), 99);
         CHECK.due("health 0 at least", x.look(2), 0);
@@ -165,6 +168,9 @@ public final class DayTest {
         CHECK.due("one left", x.look(1), 1);
         CHECK.due("health again", x.look(2), 3);
         CHECK.due("the next day", x.days(1), 1);
+        x.set(3, 0, 1);
+        x.post(0, 5, 1);
+        CHECK.due("health 1 is above 0", x.days(1), 1);
     }
 
     private static void ages() {
@@ -202,6 +208,10 @@ public final class DayTest {
         for (int d = 0; d < then.length; d++) {
             CHECK.due("face of " + d, x.of(d, 0), then[d]);
         }
+        KindPostman y = withDoors(11);
+        y.door(9, 0, 0);
+        y.days(1);
+        CHECK.due("the last of twelve", y.of(11, 0), 8);
         Words.tell(x, 0, "opens 0;");
         x.post(5, 5, 1);
         x.days(1);

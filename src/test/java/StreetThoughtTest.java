@@ -48,6 +48,17 @@ public final class StreetThoughtTest {
         for (int[] w : wrong) {
             CHECK.due("shortest(" + w[0] + ", " + w[1] + ")", x.shortest(w[0], w[1]), -1);
         }
+        x.undo();
+        CHECK.due("shortest(0, 2)", x.shortest(0, 2), -1);
+        CHECK.due("shortest(0, -1)", x.shortest(0, -1), -1);
+        x.post(0, 0, 1);
+        CHECK.due("he comes through 0 anyway", x.shortest(1, 0), 5 + 10 + 7);
+        x.undo();
+        KindPostman y = withDoors(3);
+        y.post(0, 0, 1);
+        Words.tell(y, 3, "street 2 1 3; street 1 0 4;");
+        CHECK.due("to door 0", y.shortest(2, 0), 7);
+        CHECK.due("it ends at door 0", y.shortest(2, 1), 0);
         CHECK.due("nobody's door", new KindPostman().shortest(0, 1), -1);
     }
 
@@ -76,6 +87,7 @@ public final class StreetThoughtTest {
         KindPostman x = withDoors(1);
         CHECK.due("an empty bag: how many", x.carries(400, 0), 0);
         CHECK.due("an empty bag: ways", x.carries(400, 1), 1);
+        CHECK.due("an empty bag, the least weight", x.carries(1, 0), 0);
         x.post(0, 0, 10);
         CHECK.due("too heavy: how many", x.carries(9, 0), 0);
         CHECK.due("too heavy: ways", x.carries(9, 1), 1);
@@ -100,6 +112,14 @@ public final class StreetThoughtTest {
         }
         CHECK.due("twelve of 24", y.carries(400, 0), 12);
         CHECK.due("in so many ways", y.carries(400, 1), 2704156);
+        KindPostman z = withDoors(1);
+        z.post(0, 0, 1);
+        CHECK.due("the least weight", z.carries(1, 0), 1);
+        z.post(0, 0, 4);
+        z.post(0, 0, 2);
+        CHECK.due("an odd weight", z.carries(3, 1), 1);
+        CHECK.due("odd weights and even ones", z.carries(6, 1), 3);
+        CHECK.due("odd in all", z.carries(7, 0), 3);
     }
 
     private static void box() {
@@ -119,6 +139,17 @@ public final class StreetThoughtTest {
         Words.tell(x, 3, "street 0 2 9; street 2 1 3; street 0 1 20;");
         CHECK.due("in the middle", x.box(0), 2);
         CHECK.due("how far, by a way round", x.box(1), 9);
+        Words.tell(x, 3, "street 0 1 9; street 1 2 3;");
+        CHECK.due("at an odd door", x.box(0), 1);
+        CHECK.due("far from door 0", x.box(1), 9);
+        KindPostman y = withDoors(12);
+        StringBuilder row = new StringBuilder();
+        for (int i = 0; i < 11; i++) {
+            row.append("street ").append(i).append(" ").append(i + 1).append(" 2;");
+        }
+        Words.tell(y, 3, row.toString());
+        CHECK.due("twelve in a row", y.box(0), 5);
+        CHECK.due("to the last of them", y.box(1), 12);
         CHECK.due("box(2)", x.box(2), -1);
         CHECK.due("box(-1)", x.box(-1), -1);
     }
@@ -142,6 +173,14 @@ public final class StreetThoughtTest {
         x.set(0, 0, 2);
         CHECK.due("not from the first", x.joy(0), 4);
         CHECK.due("where", x.joy(1), 2);
+        KindPostman y = withDoors(11);
+        y.door(7, 0, 0);
+        y.set(0, 10, -1);
+        y.set(0, 0, 6);
+        CHECK.due("the last of twelve", y.joy(0), 12);
+        CHECK.due("all together", y.joy(1), 0);
+        y.set(0, 10, -7);
+        CHECK.due("the last alone", y.joy(1), 11);
         CHECK.due("joy(2)", x.joy(2), -100);
         CHECK.due("joy(-1)", x.joy(-1), -100);
     }
@@ -169,6 +208,19 @@ public final class StreetThoughtTest {
         CHECK.due("one, three, four", x.game(0), -1);
         x.post(0, 0, 1);
         CHECK.due("one, one, three, four: of several the least", x.game(0), 0);
+        KindPostman y = withDoors(12);
+        for (int i = 0; i < 5; i++) {
+            y.post(11, 0, 1);
+        }
+        CHECK.due("five at the last door: at", y.game(0), 11);
+        CHECK.due("five at the last door: how many", y.game(1), 2);
+        y.post(3, 0, 1);
+        y.post(3, 0, 1);
+        CHECK.due("two and five", y.game(0), -1);
+        y.post(3, 0, 1);
+        y.post(3, 0, 1);
+        CHECK.due("four and five: leave two, five", y.game(0), 3);
+        CHECK.due("four and five: two", y.game(1), 2);
         CHECK.due("game(2)", x.game(2), -1);
         CHECK.due("game(-1)", x.game(-1), -1);
     }

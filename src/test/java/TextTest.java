@@ -12,6 +12,9 @@ public final class TextTest {
         lawFaults();
         postFaults();
         roundAndStreetFaults();
+        oddBytes();
+        longTexts();
+        manyTexts();
         manyLines();
         staysAsItWas();
         CHECK.end();
@@ -50,6 +53,8 @@ public final class TextTest {
             x.feed(0, 0, 0, 0, 0);
         }
         CHECK.due("383 would be 403", x.feed(0, 0, 0, 0, 0), -1);
+        x.end(381);
+        CHECK.due("381 would be 401", x.feed(0, 0, 0, 0, 0), -1);
         x.end(380);
         CHECK.due("380 will be 400", x.feed(0, 0, 0, 0, 0), 400);
     }
@@ -107,6 +112,8 @@ public final class TextTest {
         CHECK.due("/ goes towards 0", e("face / 2 + 10"), 9);
         CHECK.due("a number of four digits", e("0042"), 42);
         CHECK.due("no blanks", e("7*much/7"), 77);
+        CHECK.due("a part by 1", e("much/1"), 77);
+        CHECK.due("a part by 9999", e("9999*7/9999"), 7);
         CHECK.due("ints wrap", e("9999*9999*9999/9999"), Math.max(0, Math.min(1000, 9999 * 9999 * 9999 / 9999)));
         CHECK.due("0 at least", e("face"), 0);
         CHECK.due("1000 at most", e("9999"), 1000);
@@ -132,13 +139,15 @@ public final class TextTest {
         String[] so = {"1 < 2", "2 = 2", "3 > 2", "not 1 > 2", "(1 < 2)", "1 < 2 or 1 < 2 and 2 < 1",
             "1 < 2 or 2 < 1 and 2 < 1", "2 < 1 and 2 < 1 or 1 < 2", "not 2 < 1 and 1 < 2", "not (1 < 2 and 2 < 1)",
             "not not 1 < 2", "((1 < 2) or 2 < 1)", "not 2 < 1 or 1 < 2", "1 + 1 * 2 = 3", "face < 0",
-            "not (2 < 1) and not (2 < 1)", "(not 2 < 1)", "not 1 < 2 or 1 < 2"};
+            "not (2 < 1) and not (2 < 1)", "(not 2 < 1)", "not 1 < 2 or 1 < 2", "not (not (1 < 2)) and 2 > 1",
+            "(2 < 1 or 1 < 2) and (1 < 2 or 2 < 1)", "not ((2 < 1 or 1 < 2) and 2 < 1)"};
         for (String text : so) {
             CHECK.due(text, b(text), true);
         }
         String[] not = {"2 < 2", "1 = 2", "2 > 2", "3 < 2", "2 > 3", "not 1 < 2", "not 1 < 2 and 2 < 1",
             "(1 < 2 or 1 < 2) and 2 < 1", "not (1 < 2 or 2 < 1)", "not 1 < 2 or not 1 < 2", "not not 2 < 1",
-            "not 1 < 2 and 1 < 2"};
+            "not 1 < 2 and 1 < 2", "not 1 = 1", "not 2 > 1", "not (1 < 2) and 1 < 2", "not not not 1 = 1",
+            "(2 < 1 or 1 < 2) and (2 < 1 or 2 < 1)", "not (1 < 2) or not (2 > 1)"};
         for (String text : not) {
             CHECK.due(text, b(text), false);
         }
@@ -152,6 +161,13 @@ public final class TextTest {
         fault(0, "opens 1 when (" + eight + ");", 3, 33);
         fault(0, "opens 1 when not not not not not not not not (1 < 2);", 3, 45);
         fault(0, "opens 1 when ((((((((not 1 < 2))))))));", 3, 21);
+        fault(0, "opens 1 when (1 < 2) and (((((((((1 < 2)))))))));", 3, 33);
+        fault(0, "opens 1 when not 1 < 2 and (((((((((1 < 2)))))))));", 3, 35);
+        fault(0, "opens 1 when not (1 < 2) or not not (((((((1 < 2)))))));", 3, 42);
+        fault(0, "opens 1 when ((((((((1 < 2)))))))));", 1, 34);
+        KindPostman x = asked();
+        Words.tell(x, 0, "opens 1 when ((((((((1 < 2;");
+        CHECK.due("what was open before a fault is not any more", Words.tell(x, 0, "opens 1 when " + eight + ";"), 1);
         CHECK.due("a not is closed behind its C",
             b("not 2<1 and not 2<1 and not 2<1 and not 2<1 and not 2<1 and not 2<1 and not 2<1 and not 2<1 and not 2<1"),
             true);
@@ -186,6 +202,14 @@ public final class TextTest {
         fault(0, "opens 1 when;", 1, 12);
         fault(0, "opens 1 when 1;", 1, 14);
         fault(0, "opens 1 when 1 < 2 < 3;", 1, 19);
+        fault(0, "opens 1 when 1 2;", 1, 15);
+        fault(0, "opens 1 when 1 2 < 3;", 1, 15);
+        fault(0, "opens 1 when 1 kind < 3;", 1, 15);
+        fault(0, "when 1;", 1, 0);
+        fault(0, "not 1;", 1, 0);
+        fault(0, "opens on;", 1, 6);
+        fault(0, "opens not;", 1, 6);
+        fault(0, "opens when 1 < 2;", 1, 6);
         fault(0, "opens 1 when (1 < 2;", 1, 19);
         fault(0, "opens 1 when 1 < 2);", 1, 18);
         fault(0, "opens 1 when (1 + 2) < 3;", 1, 19);
@@ -210,6 +234,9 @@ public final class TextTest {
         fault(1, "on 0 to 1 news 100;", 2, 15);
         fault(1, "on 0 to 1 love 5;", 1, 10);
         fault(1, "on 0 to 1 news;", 1, 14);
+        fault(1, "on 0 to 1 5;", 1, 10);
+        fault(1, "on 0 to 1 to 5;", 1, 10);
+        fault(1, "on 0 to 1 walk 5;", 1, 10);
         fault(1, "on 0 1 news 5;", 1, 5);
         fault(1, "on to 1 news 5;", 1, 3);
         fault(1, "on 0 to 1 news 5", 1, 16);
@@ -242,6 +269,59 @@ public final class TextTest {
         KindPostman x = new KindPostman();
         CHECK.due("no door", Words.tell(x, 2, "walk 0;"), -1);
         CHECK.due("that is a fault of the number", x.fault(0), 2);
+    }
+
+    private static void oddBytes() {
+        for (int b = 0; b < 256; b++) {
+            boolean isToken = Character.isLetterOrDigit(b) && b < 128 || ";+-*/()<=> \n".indexOf(b) >= 0;
+            if (!isToken) {
+                fault(0, "opens 1 " + (char) b + ";", 1, 8);
+                fault(2, "walk 1;" + (char) b, 1, 7);
+            }
+        }
+    }
+
+    /** Texts of 400 bytes, of as many tokens as can be. */
+    private static void longTexts() {
+        fault(0, ";".repeat(400), 1, 0);
+        fault(0, "tires 1" + "+1".repeat(196) + " ", 1, 400);
+        fault(0, "tires 1" + "+1".repeat(196) + "+", 1, 400);
+        KindPostman x = asked();
+        CHECK.due("a long sum", Words.tell(x, 0, "opens 1" + "+1".repeat(196) + ";"), 1);
+        CHECK.due("what it tells", x.letter(0, 5), 197);
+        CHECK.due("a long product", Words.tell(x, 0, "opens 1" + "*1".repeat(98) + "/1".repeat(98) + ";"), 1);
+        CHECK.due("what it tells, too", x.letter(0, 5), 1);
+        CHECK.due("many and", Words.tell(x, 0, "opens 5 when 1<2" + "and 1<2".repeat(54) + ";"), 1);
+        CHECK.due("all are so", x.letter(0, 5), 5);
+        CHECK.due("many and, one not so", Words.tell(x, 0, "opens 5 when 2<1" + "and 1<2".repeat(54) + ";"), 1);
+        CHECK.due("not all are so", x.letter(0, 5), 40);
+        CHECK.due("many or", Words.tell(x, 0, "opens 5 when 1<2" + "or 2<1".repeat(63) + ";"), 1);
+        CHECK.due("one is so", x.letter(0, 5), 5);
+        CHECK.due("many lines that are not so",
+            Words.tell(x, 0, "opens 1 when 2<1;".repeat(15) + "opens 3+4*kind;"), 16);
+        CHECK.due("the last one", x.letter(0, 5), 11);
+        String deep = "2<1 or 1<2 and (".repeat(8) + "1<2" + ")".repeat(8);
+        CHECK.due("deep", Words.tell(x, 0, "opens 5 when " + deep + ";"), 1);
+        CHECK.due("deep and so", x.letter(0, 5), 5);
+    }
+
+    private static void manyTexts() {
+        KindPostman x = asked();
+        for (int i = 0; i < 60; i++) {
+            String text = "gives 1+1-1 when 1>2 or 2>3; gives " + i + ";";
+            CHECK.due("law " + i, Words.tell(x, 0, text), 2);
+            CHECK.due("what law " + i + " gives", x.letter(0, 6), i);
+        }
+        String[] lines = {"tires 1;", "on 0 to 0 kiss 1;", "walk 0;", "street 0 1 1;"};
+        x.door(0, 0, 0);
+        for (int k = 0; k < 4; k++) {
+            Words.tell(x, k, lines[k].repeat(5));
+            CHECK.due("five lines", x.look(11 + k), 5);
+            Words.tell(x, k, lines[k].repeat(2));
+            CHECK.due("two lines", x.look(11 + k), 2);
+            Words.tell(x, k, "");
+            CHECK.due("none", x.look(11 + k), 0);
+        }
     }
 
     private static void manyLines() {

@@ -60,6 +60,16 @@ public final class ToldThoughtTest {
         x = blown(-50, -48);
         CHECK.due("never below 1", x.bears(99, 1), 1);
         CHECK.due("98 is not enough", x.bears(98, 1), -1);
+        CHECK.due("left with 1, he bore it", x.bears(99, 0), 0);
+        CHECK.due("health 1 can be", blown(5).bears(1, 1), 6);
+        CHECK.due("health 1: the first", blown(-5, 9).bears(1, 0), 1);
+        CHECK.due("health 0 can't be", blown(5).bears(0, 1), -1);
+        CHECK.due("health 0 can't be: the first", blown(5).bears(0, 0), -1);
+        CHECK.due("health 100 can't be", blown(5).bears(100, 1), -1);
+        CHECK.due("what 2", blown(5).bears(9, 2), -1);
+        CHECK.due("by the third alone", blown(-30, -40, 45).bears(40, 0), 0);
+        CHECK.due("by the third first", blown(-40, -30, 35).bears(40, 0), 1);
+        CHECK.due("left then", blown(-40, -30, 35).bears(40, 1), 5);
         int[][] wrong = {{0, 1}, {100, 1}, {-1, 1}, {99, 2}, {99, -1}};
         for (int[] w : wrong) {
             CHECK.due("bears(" + w[0] + ", " + w[1] + ")", x.bears(w[0], w[1]), -1);
@@ -82,6 +92,7 @@ public final class ToldThoughtTest {
         }
         CHECK.due("there are sixteen", x.owes(0, 1, 1), -1);
         CHECK.due("net of 11", x.net(11), -114);
+        CHECK.due("net of 0", x.net(0), 1);
         CHECK.due("net of 5", x.net(5), 100);
         CHECK.due("net of 1", x.net(1), 2);
         CHECK.due("net of 6", x.net(6), 1);
@@ -108,6 +119,18 @@ public final class ToldThoughtTest {
         CHECK.due("three in one group", settled(0, 1, 5, 0, 2, 6), 2);
         CHECK.due("two groups hidden in a chain", settled(0, 1, 5, 2, 3, 5, 0, 3, 1, 2, 1, 1), 2);
         CHECK.due("groups of three", settled(0, 1, 3, 0, 2, 4, 3, 5, 2, 4, 5, 9), 4);
+        CHECK.due("nets of 1", settled(0, 1, 1, 2, 3, 1, 4, 5, 1), 3);
+        CHECK.due("one pair, one group of three", settled(0, 1, 7, 2, 3, 4, 2, 4, 5, 0, 3, 2, 2, 1, 2), 3);
+        KindPostman x = new KindPostman();
+        x.carries(5, 0);
+        x.owes(0, 1, 3);
+        CHECK.due("behind another thought", x.net(-1), 1);
+        x.door(0, 0, 0);
+        x.post(0, 0, 1);
+        x.carries(5, 0);
+        x.owes(2, 3, 4);
+        CHECK.due("behind another thought again", x.net(-1), 2);
+        CHECK.due("and the other one behind it", x.carries(5, 1), 1);
         CHECK.due("all twelve in pairs", settled(0, 6, 1, 1, 7, 2, 2, 8, 3, 3, 9, 4, 4, 10, 5, 5, 11, 6), 6);
     }
 

@@ -47,6 +47,15 @@ public final class UndoTest {
         CHECK.due("state", x.look(10), 0);
         CHECK.due("book", x.look(9), 1);
         CHECK.due("the letter is there", x.letter(0, 3), 20);
+        x.post(0, 2, 21);
+        x.bring(0);
+        CHECK.due("the second lies first", x.letter(0, 0), 1);
+        x.undo();
+        CHECK.due("its number", x.letter(0, 0), 0);
+        CHECK.due("its door", x.letter(0, 1), 0);
+        CHECK.due("its kind", x.letter(0, 2), 1);
+        CHECK.due("the other's number", x.letter(1, 0), 1);
+        x.undo();
         CHECK.due("undo of rain", x.undo(), true);
         CHECK.due("rain", x.look(7), 0);
         CHECK.due("undo of posting", x.undo(), true);
@@ -261,6 +270,12 @@ public final class UndoTest {
             CHECK.due("the tape is not of the image", x.end(20), true);
             x.end(0);
         }
+        CHECK.due("one blow more", x.blow(1), 2);
+        CHECK.due("one debt more", x.owes(0, 1, 1), 2);
+        CHECK.due("one letter more", x.spell(1), 2);
+        CHECK.due("one answer more", x.answer(0, 1), 2);
+        CHECK.due("one face more", x.face(1, 1), 2);
+        CHECK.due("both faces", x.faces(0), 7 * 7 * 7 * 7);
         Words.tell(x, 0, "opens 1000;");
         CHECK.due("the round and the post go on", x.days(6), 2);
     }
@@ -273,6 +288,7 @@ public final class UndoTest {
         x.face(-1, 0);
         x.has(6, 0);
         if (what == 1) {
+            x.face(-1, 0);
             x.blow(-20);
             x.owes(2, 3, 9);
             x.has(6, 5);
@@ -283,6 +299,12 @@ public final class UndoTest {
             x.blow(20);
             x.spell(7);
             x.spell(8);
+            x.owes(5, 6, 1);
+            x.owes(5, 6, 1);
+            x.answer(4, 4);
+            x.answer(4, 4);
+            x.face(1, 1);
+            x.face(4, 1);
         }
     }
 
@@ -305,6 +327,24 @@ public final class UndoTest {
         y.image(false);
         CHECK.due("as it was when it was taken", y.look(1), 1);
         CHECK.due("numbers go on from there", y.post(0, 0, 1), 1);
+        KindPostman z = withLetter();
+        z.image(true);
+        z.undo();
+        z.post(0, 3, 9);
+        z.bring(0);
+        z.image(false);
+        CHECK.due("the book as it was", z.look(9), 1);
+        z.post(0, 3, 9);
+        z.bring(1);
+        z.image(false);
+        z.door(0, 0, 0);
+        z.post(1, 2, 8);
+        z.image(true);
+        z.undo();
+        z.post(0, 6, 7);
+        CHECK.due("written over", z.book(1, 3), 0);
+        z.image(false);
+        CHECK.due("the book's lines as they were", z.book(1, 3), 1);
     }
 
     private static void looks() {
