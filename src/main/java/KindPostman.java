@@ -4,7 +4,8 @@ import java.util.Arrays;
  * A postman who is paid on arrival in kind. The numbered promises of DOC.md say what each call answers;
  * the words of its Terms (DOOR, LETTER, THE BAG, THE LAW ..) are used here as they stand there.
  *
- * All rows are made in constructors and used again, so that no call makes an object.
+ * All rows are made in constructors, but for one large one that is made once, and used again: a run lives in one
+ * room, in which nothing is ever given back.
  */
 public final class KindPostman {
     public static final int NONE = -1;

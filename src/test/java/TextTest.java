@@ -353,6 +353,12 @@ public final class TextTest {
             CHECK.due("it stays as it was", x.look(11 + k), lines);
             CHECK.due("and the tape is empty", x.end(1), false);
         }
+        Words.tell(x, 2, "walk 1; walk 0; walk 9;");
+        Words.tell(x, 1, "on 0 to 0 kiss 1;");
+        CHECK.due("a bad round behind which a post is told", x.look(13), 1);
+        Words.tell(x, 3, "street 0 1 1; street 0 1 2; street 0 0 1;");
+        Words.tell(x, 2, "walk 0;");
+        CHECK.due("bad streets behind which a round is told", x.look(14), 1);
         CHECK.due("the law stays", x.letter(0, 6), 7);
         CHECK.due("the street stays", x.of(0, 11), 9);
         Words.tell(x, 0, "opens 1000;");

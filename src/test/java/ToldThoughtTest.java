@@ -67,6 +67,10 @@ public final class ToldThoughtTest {
         CHECK.due("health 0 can't be: the first", blown(5).bears(0, 0), -1);
         CHECK.due("health 100 can't be", blown(5).bears(100, 1), -1);
         CHECK.due("what 2", blown(5).bears(9, 2), -1);
+        x = blown(-50, 30, -50, 20, 10);
+        CHECK.due("five: the first", x.bears(51, 0), 0);
+        CHECK.due("five: left", x.bears(51, 1), 11);
+        CHECK.due("five: both blows behind the rests", x.bears(45, 1), 5);
         CHECK.due("by the third alone", blown(-30, -40, 45).bears(40, 0), 0);
         CHECK.due("by the third first", blown(-40, -30, 35).bears(40, 0), 1);
         CHECK.due("left then", blown(-40, -30, 35).bears(40, 1), 5);

@@ -275,7 +275,7 @@ public final class UndoTest {
         CHECK.due("one letter more", x.spell(1), 2);
         CHECK.due("one answer more", x.answer(0, 1), 2);
         CHECK.due("one face more", x.face(1, 1), 2);
-        CHECK.due("both faces", x.faces(0), 7 * 7 * 7 * 7);
+        CHECK.due("both faces", x.faces(0), 3 * 7 * 7 * 7 * 7);
         Words.tell(x, 0, "opens 1000;");
         CHECK.due("the round and the post go on", x.days(6), 2);
     }
@@ -288,14 +288,14 @@ public final class UndoTest {
         x.face(-1, 0);
         x.has(6, 0);
         if (what == 1) {
-            x.face(-1, 0);
             x.blow(-20);
             x.owes(2, 3, 9);
             x.has(6, 5);
             x.spell(6);
             x.answer(2, 3);
-            x.face(2, 2);
+            x.face(2, -1);
         } else {
+            x.blow(20);
             x.blow(20);
             x.spell(7);
             x.spell(8);
