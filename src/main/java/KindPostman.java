@@ -272,7 +272,7 @@ public final class KindPostman {
     }
 
     public boolean has(int letter, int v) {
-        if (!isWithin(letter, 0, Told.ALPHABET - 1) || !isWithin(v, 0, 9)) {
+        if (!isWithin(letter, 0, Told.ALPHABET - 1) || !isWithin(v, 0, Told.MOST_STOCK)) {
             return false;
         }
         told.stock[letter] = v;
@@ -1405,6 +1405,8 @@ public final class KindPostman {
     /** What is told for thought: BEARS, OWES, WORD, ANSWERS, FACES. */
     private static final class Told {
         static final int ALPHABET = 26;
+        /** Of one letter. */
+        static final int MOST_STOCK = 9;
         private static final int MOST_BLOWS = 8;
         private static final int MOST_BLOW = 50;
         private static final int MOST_DEBTS = 16;
@@ -1626,7 +1628,7 @@ public final class KindPostman {
             if (told.spelledCount == 0) {
                 return 0;
             }
-            int times = Integer.MAX_VALUE;
+            int times = Told.MOST_STOCK;
             for (int i = 0; i < Told.ALPHABET; i++) {
                 if (told.spelled[i] > 0) {
                     times = Math.min(times, told.stock[i] / told.spelled[i]);
@@ -1867,7 +1869,7 @@ public final class KindPostman {
 
         /** The most FACE together of DOORS side by side, or where it begins. */
         int joyOfRow(boolean where, Doors doors) {
-            int most = Integer.MIN_VALUE;
+            int most = -MOST_FACE - 1;
             int begin = NONE;
             for (int a = 0; a < doors.count; a++) {
                 int sum = 0;

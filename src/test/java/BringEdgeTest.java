@@ -33,6 +33,7 @@ public final class BringEdgeTest {
         theBagHoldsTwentyFour();
         numbers();
         theBookHolds150();
+        toTheLastCall();
         CHECK.end();
     }
 
@@ -445,5 +446,17 @@ public final class BringEdgeTest {
         x.bring(74);
         CHECK.due("line 149 anew", x.book(149, 1), 1);
         CHECK.due("what was given", x.book(149, 3), 5);
+    }
+
+    /** One call for the door, three for THE LAW, 253 times two, and two more. */
+    private static void toTheLastCall() {
+        CHECK.about("An object is used for at most 512 calls after it has been made");
+        KindPostman x = open();
+        for (int i = 0; i < 253; i++) {
+            CHECK.due("the number " + i, x.post(0, TEXT, 99), i);
+            CHECK.due("what was given for " + i, x.bring(i), 99);
+        }
+        CHECK.due("given in all, call 511", x.given(TEXT), 253 * 99);
+        CHECK.due("GOT, call 512", x.of(0, 3), 253);
     }
 }

@@ -93,7 +93,8 @@ public final class DayEdgeTest {
     private static void postComesOnItsDay() {
         CHECK.about("Line by line of POST for it: a LETTER comes into THE BAG (DAY 0 .. 999)");
         KindPostman x = withDoors(2, "");
-        CHECK.due("POST", Words.tell(x, 1, "on 999 to 0 kiss 9;on 0 to 1 text 1;on 1 to 0 joke 2;on 0 to 0 news 3;"), 4);
+        String post = "on 999 to 0 kiss 9;on 0 to 1 text 1;on 1 to 0 joke 2;on 0 to 0 news 3;";
+        CHECK.due("POST", Words.tell(x, 1, post), 4);
         CHECK.due("nothing yet", x.look(1), 0);
         x.days(1);
         CHECK.due("of day 0 two", x.look(1), 2);

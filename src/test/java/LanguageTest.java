@@ -7,6 +7,7 @@ import com.sun.source.tree.ForLoopTree;
 import com.sun.source.tree.ImportTree;
 import com.sun.source.tree.LambdaExpressionTree;
 import com.sun.source.tree.MemberReferenceTree;
+import com.sun.source.tree.MemberSelectTree;
 import com.sun.source.tree.MethodInvocationTree;
 import com.sun.source.tree.MethodTree;
 import com.sun.source.tree.NewArrayTree;
@@ -177,6 +178,15 @@ public final class LanguageTest extends TreePathScanner<Void, Void> {
             rule(4, LIBRARY.contains(home.getSimpleName() + "." + called.getSimpleName()), call);
         }
         return super.visitMethodInvocation(call, none);
+    }
+
+    /** Of the library methods are listed, and no constants. */
+    @Override
+    public Void visitMemberSelect(MemberSelectTree select, Void none) {
+        Element named = trees.getElement(getCurrentPath());
+        boolean isField = named != null && named.getKind().isField() && !select.getIdentifier().contentEquals("length");
+        rule(4, !isField || trees.getTree(named) != null, select);
+        return super.visitMemberSelect(select, none);
     }
 
     @Override

@@ -52,7 +52,7 @@ final class States {
         Words.tell(x, 0, "opens 0; tires 0;");
         Words.tell(x, 2, "walk 0;".repeat(16));
         for (int i = 0; i < 24; i++) {
-            x.post(i % 3, i % 7, 1 + 4 * i);
+            x.post(i % 3, i % 7, 8 + i % 2);
         }
         x.image(true);
         x.days(2);

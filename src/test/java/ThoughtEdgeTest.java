@@ -194,6 +194,8 @@ public final class ThoughtEdgeTest {
         CHECK.due("both behind", blown(50, 50, -50, -40).bears(99, 1), 99);
         CHECK.due("a rest between", blown(-50, -50, 50).bears(99, 1), 49);
         CHECK.due("rests can't be kept", blown(50, 50, -50, -50, -50).bears(99, 1), 49);
+        CHECK.due("a rest that is lost can't be the first", blown(50, -50, -49).bears(99, 0), 1);
+        CHECK.due("one that is not lost can", blown(50, -50, -48).bears(49, 0), 0);
     }
 
     private static void bearsTheLeast() {
@@ -295,6 +297,11 @@ public final class ThoughtEdgeTest {
         for (int d = 1; d <= 11; d++) {
             x.owes(0, d, d);
             CHECK.due("one owes " + d, x.net(-1), d);
+        }
+        x.owes(-1, 0, 0);
+        for (int d = 1; d <= 11; d++) {
+            x.owes(0, d, 1);
+            CHECK.due("one owes 1 to each of " + d, x.net(-1), d);
         }
         x.owes(-1, 0, 0);
         for (int d = 0; d < 11; d++) {
