@@ -62,18 +62,27 @@ public final class RefusedTest {
     /** The states are what the others count on. */
     private static void states() {
         KindPostman x = States.rich();
-        int[] rich = {3, 5, 66, 40, 1, 1, 1, 4, 11, 15, x.look(10), 2, 2, 1, 2, 4};
+        int[] rich = {3, 5, 66, 40, 1, 1, 1, 4, 11, 15, drawn(77, 4), 2, 2, 1, 2, 4};
         for (int what = 0; what < 16; what++) {
             CHECK.due("rich: look(" + what + ")", x.look(what), rich[what]);
         }
         CHECK.due("rich: a fault", x.fault(0), 1);
         KindPostman y = States.full();
-        int[] full = {12, 24, 99, 10, 0, 0, 0, 4, 2, 150, y.look(10), 2, 0, 16, 0, 6};
+        int[] full = {12, 24, 99, 10, 0, 0, 0, 4, 2, 150, drawn(0, 2 * 16 * 8), 2, 0, 16, 0, 6};
         for (int what = 0; what < 16; what++) {
             CHECK.due("full: look(" + what + ")", y.look(what), full[what]);
         }
         CHECK.due("weak", States.weak().look(2), 0);
         CHECK.due("late", States.late().look(8), 9999);
+    }
+
+    /** STATE behind so many draws. */
+    private static int drawn(int state, int draws) {
+        int then = state;
+        for (int i = 0; i < draws; i++) {
+            then = 1664525 * then + 1013904223;
+        }
+        return then;
     }
 
     private static void doors() {
