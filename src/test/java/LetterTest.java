@@ -194,10 +194,12 @@ public final class LetterTest {
         int negative = 1;
         KindPostman y = withDoor(0, 0);
         y.post(0, TEXT, 7);
-        for (int s = 1; negative > 0; s++) {
-            negative = 1664525 * s + 1013904223;
-            y.state(s);
+        int state = 0;
+        while (negative > 0) {
+            state++;
+            negative = 1664525 * state + 1013904223;
         }
+        y.state(state);
         int draw = (negative >>> 8) % 1000;
         Words.tell(y, 0, "opens " + draw + ";");
         CHECK.due("without sign: shut", y.bring(0), -1);

@@ -276,15 +276,19 @@ public final class TakenTest {
         CHECK.due("what changed by image(true)", Seen.differences(Seen.still(x), Seen.still(rich())), "");
         CHECK.due("what was done can be undone", x.undo(), true);
         CHECK.about("THE IMAGE: all that is and was told but the TAPE, fault() and what can be undone, as it was then");
-        for (int times = 0; times < 2; times++) {
-            change(x);
-            CHECK.due("image(false)", x.image(false), true);
-            CHECK.due("what is not as it was, " + times, Seen.differences(Seen.still(x), Seen.still(rich())),
+        for (int times = 1; times <= 2; times++) {
+            KindPostman y = rich();
+            y.image(true);
+            for (int i = 0; i < times; i++) {
+                change(y);
+                CHECK.due("image(false)", y.image(false), true);
+            }
+            CHECK.due("what is not as it was, " + times, Seen.differences(Seen.still(y), Seen.still(rich())),
                 "fault(0) fault(1) look(15)");
-            CHECK.due("nothing can be undone", x.undo(), false);
-            CHECK.due("the fault is the latest", x.fault(0), 2);
-            CHECK.due("its place, too", x.fault(1), 5);
-            CHECK.due("the TAPE is the latest", x.feed(0, 0, 0, 0, 0), 27);
+            CHECK.due("nothing can be undone", y.undo(), false);
+            CHECK.due("the fault is the latest", y.fault(0), 2);
+            CHECK.due("its place, too", y.fault(1), 5);
+            CHECK.due("the TAPE is the latest", y.feed(0, 0, 0, 0, 0), 27);
         }
     }
 
