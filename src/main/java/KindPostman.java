@@ -1695,17 +1695,17 @@ public final class KindPostman {
                     units[i] += one * (letters >> i & 1);
                 }
             }
-            return waysFrom(0, wanted);
+            return waysFrom(0, wanted, units, possible);
         }
 
-        /** In how many ways letters from this one on can make up what is wanted yet. */
-        private int waysFrom(int letter, long wanted) {
+        /** In how many ways letters from this one on can make up what is wanted yet; notes what each can be. */
+        private static int waysFrom(int letter, long wanted, long[] units, int[] possible) {
             if (letter >= MYSTERIES) {
                 return wanted == 0L ? 1 : 0;
             }
             int all = 0;
             for (int change = 0; change < KINDS_OF_CHANGE.length; change++) {
-                int here = waysFrom(letter + 1, wanted - change * units[letter]);
+                int here = waysFrom(letter + 1, wanted - change * units[letter], units, possible);
                 if (here > 0) {
                     possible[letter] |= 1 << change;
                     all += here * KINDS_OF_CHANGE[change];

@@ -1,8 +1,13 @@
+import com.sun.source.tree.ArrayAccessTree;
 import com.sun.source.tree.AssertTree;
+import com.sun.source.tree.AssignmentTree;
 import com.sun.source.tree.BinaryTree;
+import com.sun.source.tree.BlockTree;
 import com.sun.source.tree.ClassTree;
 import com.sun.source.tree.CompilationUnitTree;
+import com.sun.source.tree.CompoundAssignmentTree;
 import com.sun.source.tree.DoWhileLoopTree;
+import com.sun.source.tree.ExpressionTree;
 import com.sun.source.tree.ForLoopTree;
 import com.sun.source.tree.ImportTree;
 import com.sun.source.tree.LambdaExpressionTree;
@@ -16,6 +21,8 @@ import com.sun.source.tree.SynchronizedTree;
 import com.sun.source.tree.ThrowTree;
 import com.sun.source.tree.Tree;
 import com.sun.source.tree.TryTree;
+import com.sun.source.tree.TypeCastTree;
+import com.sun.source.tree.UnaryTree;
 import com.sun.source.tree.VariableTree;
 import com.sun.source.tree.WhileLoopTree;
 import com.sun.source.util.JavacTask;
@@ -31,6 +38,7 @@ import java.util.Map;
 import java.util.Set;
 import javax.lang.model.element.Element;
 import javax.lang.model.element.Modifier;
+import javax.lang.model.type.TypeMirror;
 import javax.tools.JavaCompiler;
 import javax.tools.StandardJavaFileManager;
 import javax.tools.ToolProvider;
@@ -44,6 +52,12 @@ public final class LanguageTest extends TreePathScanner<Void, Void> {
         "end", "text", "fault", "of", "letter", "given", "book", "goes", "shortest", "blow", "bears", "carries",
         "owes", "net", "chain", "has", "spell", "lays", "answer", "likely", "box", "face", "faces", "joy", "game",
         "undo", "image", "look");
+    private static final String NUMBER = "int|long|short|byte|char|boolean|double|float";
+    private static final String OWN = "KindPostman(\\.[A-Z]\\w*)?";
+    /** Rule 3, as far as the class makes use of it. */
+    private static final String TYPES = "(" + NUMBER + "|" + OWN + ")(\\[\\])?|(" + NUMBER + ")\\[\\]\\[\\]"
+        + "|java.lang.String";
+    private static final String CONSTANTS = "int|long|boolean|char|java.lang.String|(int|long|char|byte)\\[\\]";
     /** The one method that makes something: the desk, once for an object. */
     private static final String MAKES = "theDesk";
 
@@ -83,8 +97,21 @@ public final class LanguageTest extends TreePathScanner<Void, Void> {
         for (Element method : calls.keySet()) {
             int depth = depth(method, new HashSet<>());
             check.due("rule 11: " + method + " goes " + depth + " deep", depth <= 8, true);
+            boolean recurs = reaches(method, method, new HashSet<>());
+            Set<Modifier> flags = method.getModifiers();
+            boolean mayRecur = flags.contains(Modifier.PRIVATE) && flags.contains(Modifier.STATIC);
+            check.due("rule 8: " + method, !recurs || mayRecur, true);
         }
         check.end();
+    }
+
+    private boolean reaches(Element from, Element to, Set<Element> seen) {
+        for (Element called : calls.getOrDefault(from, Set.of())) {
+            if (called.equals(to) || seen.add(called) && reaches(called, to, seen)) {
+                return true;
+            }
+        }
+        return false;
     }
 
     private int depth(Element method, Set<Element> open) {
@@ -133,8 +160,10 @@ public final class LanguageTest extends TreePathScanner<Void, Void> {
     public Void visitVariable(VariableTree v, Void none) {
         boolean isField = getCurrentPath().getParentPath().getLeaf() instanceof ClassTree;
         Set<Modifier> flags = v.getModifiers().getFlags();
+        String type = typeOf(getCurrentPath());
+        rule(3, type.matches(TYPES), v);
         if (isField && flags.contains(Modifier.STATIC)) {
-            rule(5, flags.contains(Modifier.FINAL), v);
+            rule(5, flags.contains(Modifier.FINAL) && type.matches(CONSTANTS) && v.getInitializer() != null, v);
         }
         if (isField && isMemberOfOutside()) {
             rule(1, flags.contains(Modifier.PRIVATE) || v.getName().contentEquals("NONE"), v);
@@ -189,12 +218,64 @@ public final class LanguageTest extends TreePathScanner<Void, Void> {
         return super.visitMemberSelect(select, none);
     }
 
+    private String typeOf(TreePath path) {
+        TypeMirror type = trees.getTypeMirror(path);
+        return type == null ? "" : type.toString();
+    }
+
+    private String typeOf(ExpressionTree part) {
+        return typeOf(new TreePath(getCurrentPath(), part));
+    }
+
     @Override
     public Void visitBinary(BinaryTree b, Void none) {
-        boolean isText = b.getKind() == Tree.Kind.PLUS
-            && trees.getTypeMirror(getCurrentPath()).toString().startsWith("java.lang.String");
+        boolean isText = b.getKind() == Tree.Kind.PLUS && typeOf(getCurrentPath()).startsWith("java.lang.String");
         rule(10, !isText, b);
+        boolean compares = b.getKind() == Tree.Kind.EQUAL_TO || b.getKind() == Tree.Kind.NOT_EQUAL_TO;
+        boolean areObjects = typeOf(b.getLeftOperand()).startsWith("java.lang")
+            && typeOf(b.getRightOperand()).startsWith("java.lang");
+        rule(6, !compares || !areObjects, b);
         return super.visitBinary(b, none);
+    }
+
+    /** Casts among own classes would need a test before them: there are none. */
+    @Override
+    public Void visitTypeCast(TypeCastTree c, Void none) {
+        rule(6, typeOf(getCurrentPath()).matches(NUMBER), c);
+        return super.visitTypeCast(c, none);
+    }
+
+    @Override
+    public Void visitBlock(BlockTree b, Void none) {
+        rule(5, !b.isStatic(), b);
+        return super.visitBlock(b, none);
+    }
+
+    private void changed(ExpressionTree target) {
+        if (target instanceof ArrayAccessTree row) {
+            Element named = trees.getElement(new TreePath(getCurrentPath(), row.getExpression()));
+            rule(5, named != null && !named.getModifiers().contains(Modifier.STATIC), target);
+        }
+    }
+
+    @Override
+    public Void visitAssignment(AssignmentTree a, Void none) {
+        changed(a.getVariable());
+        return super.visitAssignment(a, none);
+    }
+
+    @Override
+    public Void visitCompoundAssignment(CompoundAssignmentTree a, Void none) {
+        changed(a.getVariable());
+        return super.visitCompoundAssignment(a, none);
+    }
+
+    @Override
+    public Void visitUnary(UnaryTree u, Void none) {
+        if (u.getKind().name().endsWith("CREMENT")) {
+            changed(u.getExpression());
+        }
+        return super.visitUnary(u, none);
     }
 
     private void made(Tree t) {
